@@ -142,11 +142,12 @@ public final class LastWordAt {
         if (script == null) {
             return NONE;
         }
-        reader.read(script);
+        reader.read();
         tape.length = 0;
         if (reader.fault != 0) {
             return NONE;
         }
+        script.copyFrom(reader.draft);
         table.texts++;
         return table.texts - 1;
     }
@@ -1367,9 +1368,11 @@ public final class LastWordAt {
 
     /** A TEXT that was read: its CLAUSES, and its laws as code that works on a pile of numbers. */
     private static final class Script {
+        private static final int LAWS = 3;
+
         private final int[] code = new int[MOST_BYTES];
         private final int[] clause = new int[MOST_CLAUSES];
-        private final int[] starts = new int[3];
+        private final int[] starts = new int[LAWS];
         int size = 0;
         int clauses = 0;
 
@@ -1377,6 +1380,14 @@ public final class LastWordAt {
             size = 0;
             clauses = 0;
             Arrays.fill(starts, NONE);
+        }
+
+        void copyFrom(Script other) {
+            System.arraycopy(other.code, 0, code, 0, MOST_BYTES);
+            System.arraycopy(other.clause, 0, clause, 0, MOST_CLAUSES);
+            System.arraycopy(other.starts, 0, starts, 0, LAWS);
+            size = other.size;
+            clauses = other.clauses;
         }
 
         void put(int op, int argument) {
@@ -1438,7 +1449,8 @@ public final class LastWordAt {
     /** The bytes that came, and the TOKENS that they are cut into. */
     private static final class Tape {
         private final int[] bytes = new int[MOST_BYTES];
-        private final int[] tokens = new int[MOST_BYTES];
+        /** Each: what it is (6 bits), where it starts (9 bits), its number; FINISH behind the last. */
+        final int[] tokens = new int[MOST_BYTES + 1];
         private int many = 0;
         int length = 0;
 
@@ -1453,18 +1465,6 @@ public final class LastWordAt {
                     length++;
                 }
             }
-        }
-
-        int tokenAt(int i) {
-            return i >= 0 && i < many ? tokens[i] & 63 : FINISH;
-        }
-
-        int startAt(int i) {
-            return i >= 0 && i < many ? tokens[i] >> 6 & 511 : length;
-        }
-
-        int numberAt(int i) {
-            return i >= 0 && i < many ? tokens[i] >> 15 : 0;
         }
 
         /** Each turn goes on by a byte at least. */
@@ -1483,10 +1483,11 @@ public final class LastWordAt {
                     at = cutSign(at);
                 }
             }
+            add(FINISH, length, 0);
         }
 
         private void add(int token, int start, int number) {
-            if (many >= 0 && many < MOST_BYTES) {
+            if (many >= 0 && many <= MOST_BYTES) {
                 tokens[many] = token | start << 6 | number << 15;
                 many++;
             }
@@ -1569,7 +1570,7 @@ public final class LastWordAt {
         int fault = 0;
         int place = NONE;
         private final Tape tape;
-        private Script script = null;
+        final Script draft = new Script();
         private int law = NONE;
         private int at = 0;
         private int token = FINISH;
@@ -1578,18 +1579,14 @@ public final class LastWordAt {
             this.tape = tape;
         }
 
-        void read(Script into) {
-            if (into == null) {
-                return;
-            }
-            script = into;
-            script.clear();
+        void read() {
+            draft.clear();
             hasRead = true;
             fault = 0;
             place = NONE;
-            at = 0;
             tape.cut();
-            token = tape.tokenAt(0);
+            at = 0;
+            token = tape.tokens[0] & 63;
             for (int i = 0; i <= MOST_CLAUSES && token != FINISH && token != BROKEN; i++) {
                 readClause();
             }
@@ -1598,15 +1595,15 @@ public final class LastWordAt {
         private void fail(int what) {
             if (fault == 0) {
                 fault = what;
-                place = tape.startAt(at);
+                place = tape.tokens[at] >> 6 & 511;
             }
             token = BROKEN;
         }
 
         private void advance() {
-            if (fault == 0) {
+            if (fault == 0 && at < MOST_BYTES) {
                 at++;
-                token = tape.tokenAt(at);
+                token = tape.tokens[at] & 63;
             }
         }
 
@@ -1619,7 +1616,7 @@ public final class LastWordAt {
         }
 
         private int expectNumber(int from, int to) {
-            int number = tape.numberAt(at);
+            int number = tape.tokens[at] >> 15;
             if (token != NUMBER) {
                 fail(1);
             } else if (number < from || number > to) {
@@ -1635,25 +1632,31 @@ public final class LastWordAt {
             int head = token;
             if (!within(head, COUNTS, DINNER)) {
                 fail(1);
-            } else if (script.startOf(head) != NONE) {
+            } else if (draft.startOf(head) != NONE) {
                 fail(4);
-            } else if (script.clauses >= MOST_CLAUSES) {
+            } else if (draft.clauses >= MOST_CLAUSES) {
                 fail(6);
             } else {
                 advance();
-                if (head <= DIES) {
-                    readLaw(head);
-                } else {
-                    readDeed(head);
+                law = head;
+                draft.startHere(head);
+                if (head == COUNTS) {
+                    readEither();
+                } else if (head <= DIES) {
+                    readSum(0);
                 }
+                readRest(head);
                 expect(SEMICOLON);
             }
         }
 
-        private void readDeed(int head) {
+        /** What a CLAUSE has behind its head, its law aside. */
+        private void readRest(int head) {
             int first = 0;
             int second = 0;
-            if (head == GUEST) {
+            if (head <= DIES) {
+                draft.put(STOP, 0);
+            } else if (head == GUEST) {
                 first = expectNumber(0, 9);
                 expect(HEARS);
                 second = expectNumber(0, 9);
@@ -1662,19 +1665,7 @@ public final class LastWordAt {
             } else if (head != ASK && head != DINNER) {
                 first = expectNumber(0, MOST_GUESTS - 1);
             }
-            script.addClause(head, first, second);
-        }
-
-        private void readLaw(int head) {
-            law = head;
-            script.addClause(head, 0, 0);
-            script.startHere(head);
-            if (head == COUNTS) {
-                readEither();
-            } else {
-                readSum(0);
-            }
-            script.put(STOP, 0);
+            draft.addClause(head, first, second);
         }
 
         /** One pass for or and and: what and joins is put ahead of what or joins. */
@@ -1687,10 +1678,10 @@ public final class LastWordAt {
                 for (int j = 0; j < MOST_BYTES && token == AND; j++) {
                     advance();
                     readAsk();
-                    script.put(AND, 0);
+                    draft.put(AND, 0);
                 }
                 if (i > 0) {
-                    script.put(OR, 0);
+                    draft.put(OR, 0);
                 }
             }
         }
@@ -1710,12 +1701,12 @@ public final class LastWordAt {
             if (within(op, LESS, UNLIKE) || op == AT_MOST || op == AT_LEAST) {
                 advance();
                 readSum(nots);
-                script.put(op, 0);
+                draft.put(op, 0);
             } else {
                 fail(1);
             }
             for (int i = 0; i < nots; i++) {
-                script.put(NOT, 0);
+                draft.put(NOT, 0);
             }
         }
 
@@ -1726,7 +1717,7 @@ public final class LastWordAt {
                 int op = token;
                 advance();
                 readProduct(depth);
-                script.put(op, 0);
+                draft.put(op, 0);
             }
         }
 
@@ -1736,13 +1727,13 @@ public final class LastWordAt {
                 int op = token;
                 advance();
                 readOne(depth);
-                script.put(op, 0);
+                draft.put(op, 0);
             }
         }
 
         private void readOne(int depth) {
             if (token == NUMBER) {
-                script.put(NUMBER, expectNumber(0, MOST_NUMBER));
+                draft.put(NUMBER, expectNumber(0, MOST_NUMBER));
             } else if (within(token, NIGHT, HEIRS)) {
                 readName();
             } else if (token != OPEN && token != MINUS && token != CHOOSE) {
@@ -1758,7 +1749,7 @@ public final class LastWordAt {
             } else {
                 advance();
                 readOne(depth + 1);
-                script.put(NEGATE, 0);
+                draft.put(NEGATE, 0);
             }
         }
 
@@ -1768,7 +1759,7 @@ public final class LastWordAt {
             if (law == DIES ? ofSpeaker : ofDinner) {
                 fail(5);
             } else {
-                script.put(token, 0);
+                draft.put(token, 0);
                 advance();
             }
         }
@@ -1788,12 +1779,12 @@ public final class LastWordAt {
                 }
             }
             expect(ELSE);
-            script.put(DROP, 0);
+            draft.put(DROP, 0);
             readSum(depth);
             expect(END);
             for (int i = 0; i < MOST_CASES && jumps != NONE; i++) {
-                int ahead = script.argumentAt(jumps) - 1;
-                script.aim(jumps, script.size);
+                int ahead = draft.argumentAt(jumps) - 1;
+                draft.aim(jumps, draft.size);
                 jumps = ahead;
             }
         }
@@ -1805,25 +1796,21 @@ public final class LastWordAt {
             int to = from;
             if (token == TO) {
                 advance();
-                to = expectNumberFrom(from);
+                if (token == NUMBER && tape.tokens[at] >> 15 < from) {
+                    fail(7);
+                }
+                to = expectNumber(0, MOST_NUMBER);
             }
             expect(COLON);
-            script.put(CASE, from);
-            script.put(RANGE, to);
-            int skip = script.size;
-            script.put(SKIP, 0);
+            draft.put(CASE, from);
+            draft.put(RANGE, to);
+            int skip = draft.size;
+            draft.put(SKIP, 0);
             readSum(depth);
-            int jump = script.size;
-            script.put(JUMP, jumpAhead + 1);
-            script.aim(skip, script.size);
+            int jump = draft.size;
+            draft.put(JUMP, jumpAhead + 1);
+            draft.aim(skip, draft.size);
             return jump;
-        }
-
-        private int expectNumberFrom(int from) {
-            if (token == NUMBER && tape.numberAt(at) < from) {
-                fail(7);
-            }
-            return expectNumber(0, MOST_NUMBER);
         }
     }
 

@@ -86,6 +86,10 @@ public final class AheadTest {
         fraction("not yet", x.words(0, 1, 0, 0, 1), x.words(0, 1, 0, 0, 2), 0, 1);
         x.pass(1);
         fraction("it holds", x.words(0, 2, 0, 0, 1), x.words(0, 2, 0, 0, 2), 3, 4);
+        fraction("knowing is worth nothing", x.cough(0, 2, 5, false), x.cough(0, 2, 5, true), 0, 1);
+        Due.due("no word is needed", x.fewest(0, 2, 0, 75), 0);
+        Due.due("a word is needed", x.fewest(1, 2, 0, 75), 1);
+        Due.due("it may speak at any time", x.when(0, 2, 0, 0), 0);
         fraction("the other speaks at once", x.when(1, 2, 0, 1), x.when(1, 2, 0, 2), 3, 4);
         x.falls(0, 2);
         fraction("the other falls", x.words(0, 2, 0, 0, 1), x.words(0, 2, 0, 0, 2), 0, 1);

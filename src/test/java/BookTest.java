@@ -149,6 +149,10 @@ public final class BookTest {
         }
         Due.due("all that is kept", x.longest(false), 20);
         Due.due("which none", x.which(0), (1 << 20) - 1);
+        Due.due("inherits(0, 7)", x.inherits(0, 7, false), -1);
+        Due.due("open(7)", x.open(7, false), -1);
+        Due.due("thatNight of 7", x.thatNight(1, 7, 0, false), -1);
+        Due.due("inherits(0, 6)", x.inherits(0, 6, false), 0);
     }
 
     private static void manyHeirs() {

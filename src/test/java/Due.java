@@ -56,6 +56,8 @@ final class Due {
         due("text " + text, read(x, text), -1);
         due("fault(0) of " + text, x.fault(0), fault);
         due("fault(1) of " + text, x.fault(1), place);
+        due("fault(2) of " + text, x.fault(2), -1);
+        due("fault(-1) of " + text, x.fault(-1), -1);
         due("about(9) behind " + text, x.about(9), 0);
         due("about(5) behind " + text, x.about(5), 0);
     }

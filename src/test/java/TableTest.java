@@ -268,6 +268,9 @@ public final class TableTest {
         Due.due("x", x.about(4), 61);
         Due.due("moment", x.about(2), 0);
         Due.due("there", x.about(8), 3);
+        Due.due("years(7, 1)", x.years(7, 1), 0);
+        Due.due("x", x.about(4), (82 * 269 + 163) % 30259);
+        x.undo();
         int ended = x.years(9999, 40);
         Due.due("night", x.about(1), ended);
         Due.due("book", x.book(-1, 0), ended);
