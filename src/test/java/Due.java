@@ -20,6 +20,22 @@ final class Due {
         due(call, got ? 1 : 0, want ? 1 : 0);
     }
 
+    static void same(String what, String got, String want) {
+        asked++;
+        if (!got.equals(want)) {
+            wrong++;
+            System.out.println(what + ": got " + got + ", due is " + want);
+        }
+    }
+
+    static int asked() {
+        return asked;
+    }
+
+    static int wrong() {
+        return wrong;
+    }
+
     static void finish() {
         System.out.println(asked + " answers asked, " + wrong + " not as due");
         if (wrong != 0) {
