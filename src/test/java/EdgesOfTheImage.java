@@ -77,7 +77,7 @@ final class EdgesOfTheImage {
         LastWordAt x = Edge.table(1);
         x.pass(35);
         x.image();
-        for (int i = 0; i < 17; i++) {
+        for (int i = 0; i < 28; i++) {
             x.ask();
         }
         x.back();

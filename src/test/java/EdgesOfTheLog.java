@@ -584,12 +584,30 @@ final class EdgesOfTheLog {
         late.say(0, 0);
         late.say(1, 0);
         Due.due("the first of THE LOG FALLS later", late.unsaid(1), 1);
-        late.dinner();
-        late.say(1, 0);
-        Due.due("tonight it is alone", late.unsaid(1), 0);
-        Due.due("tonight", late.provoked(1, 0), 0);
-        late.pass(4);
-        Due.due("tonight it HELD", late.held(1), 4);
+    }
+
+    @Says(promise = 37, words = "THE LOG of tonight")
+    static void lastNightsWordsAreGone() {
+        LastWordAt x = new LastWordAt();
+        x.guest(5, 9, -1);
+        x.guest(5, 9, -1);
+        x.guest(5, 0, -1);
+        x.say(0, 0);
+        x.say(2, 0);
+        x.say(2, 0);
+        x.dinner();
+        Due.due("UNSAID of one that spoke last night", x.unsaid(2), -1);
+        x.say(0, 0);
+        Due.due("UNSAID", x.unsaid(0), 0);
+        Due.due("UNSAID of one that spoke last night", x.unsaid(2), -1);
+        Due.due("PROVOKED: the lowest, as nobody is in its way", x.provoked(0, 0), 1);
+        x.pass(5);
+        Due.due("HELD", x.held(0), 5);
+        Due.due("HELD by one that spoke last night", x.held(2), 0);
+        Due.due("SILENCE", x.silence(), 5);
+        Due.due("TOLD", x.told(2, 0), 0);
+        Due.due("WHISPERED", x.whispered(1, 2), 2);
+        Due.due("IF HE ASKED", x.ifAsked(0), 1);
     }
 
     // ---- 38: nextToast ----
