@@ -163,6 +163,7 @@ public final class AheadTest {
         Due.due("silent of like ones", x.game(2, 2), 0);
         for (int m = 1; m <= 5; m++) {
             for (int seed = 0; seed < 60; seed++) {
+                x = new LastWordAt();
                 int[] p = new int[5];
                 for (int t = 0; t < 5; t++) {
                     p[t] = (seed * 37 + t * t * 29 + seed * t * 17) % 101;

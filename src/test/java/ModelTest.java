@@ -4,7 +4,8 @@ import java.util.Random;
 /** Runs of drawn calls, each answered by the class and by the model; the seeds are fixed. */
 public final class ModelTest {
     private static final int RUNS = 400;
-    private static final int CALLS = 500;
+    /** Some way below 512, as a step of a run may take several calls. */
+    private static final int CALLS = 450;
 
     private final Random random;
     private final LastWordAt x = new LastWordAt();
